@@ -1,68 +1,23 @@
+import java.util.stream.IntStream;
+
 /** One method for each promise of the document; no object is used for more than its 512 calls. */
 public final class PromiseTest {
-    private static final int MIN = Integer.MIN_VALUE;
-    private static final int MAX = Integer.MAX_VALUE;
+    private static final int MIN = Sets.MIN;
+    private static final int MAX = Sets.MAX;
     private static final int NONE = FlatQueue.NONE;
-
-    /** Numbers outside 0 .. 255, those that look like members when cut to 8 or 16 bits among them. */
-    private static final int[] OUTSIDE = {MIN, MIN + 1, MIN + 10, -65526, -256, -246, -10, -2, -1,
-        256, 257, 266, 511, 512, 65536, 65546, MAX - 245, MAX - 1, MAX};
+    private static final int[] OUTSIDE =
+        IntStream.concat(IntStream.of(Sets.TOO_SMALL), IntStream.of(Sets.TOO_LARGE)).toArray();
 
     public static void main(String[] args) {
-        promise1NewObject();
-        promise2Insert();
-        promise3Delete();
-        promise4Member();
-        promise5Size();
-        promise6Least();
-        promise7Greatest();
-        promise8After();
-        promise9Before();
-        promise10TakeLeast();
-        promise11TakeGreatest();
-        promise12CountBetween();
-        promise13Select();
-        promise14GapFrom();
-        promise15DeleteBetween();
-        promise16Nearest();
-        promise17RefusedCallsChangeNothing();
-        promise17QuestionsChangeNothing();
+        Check.runTestsOf(PromiseTest.class);
         Check.finish();
     }
 
-    private static FlatQueue setOf(int... members) {
-        FlatQueue queue = new FlatQueue();
-        for (int x : members) {
-            Check.due("insert(" + x + ") into a new set", queue.insert(x), true);
-        }
-        return queue;
-    }
-
-    private static FlatQueue fullSet() {
-        FlatQueue queue = new FlatQueue();
-        for (int x = 0; x <= 255; x++) {
-            Check.due("insert(" + x + ") while filling", queue.insert(x), true);
-        }
-        return queue;
-    }
-
-    /** Takes 257 calls. */
-    private static void dueMembers(String what, FlatQueue queue, int... members) {
-        boolean[] due = new boolean[256];
-        for (int x : members) {
-            due[x] = true;
-        }
-        for (int x = 0; x <= 255; x++) {
-            Check.due(what + ": member(" + x + ")", queue.member(x), due[x]);
-        }
-        Check.due(what + ": size()", queue.size(), members.length);
-    }
-
     private static void promise1NewObject() {
-        dueMembers("1: new", new FlatQueue());
-        FlatQueue first = setOf(3, 4);
-        dueMembers("1: new beside another", new FlatQueue());
-        dueMembers("1: another beside new", first, 3, 4);
+        Sets.dueMembers("1: new", new FlatQueue());
+        FlatQueue first = Sets.setOf(3, 4);
+        Sets.dueMembers("1: new beside another", new FlatQueue());
+        Sets.dueMembers("1: another beside new", first, 3, 4);
     }
 
     private static void promise2Insert() {
@@ -75,22 +30,22 @@ public final class PromiseTest {
         for (int x : OUTSIDE) {
             Check.due("2: insert(" + x + ")", queue.insert(x), false);
         }
-        dueMembers("2: after the inserts", queue, order);
+        Sets.dueMembers("2: after the inserts", queue, order);
 
-        FlatQueue full = fullSet();
+        FlatQueue full = Sets.fullSet();
         for (int x = 0; x <= 255; x += 5) {
             Check.due("2: insert(" + x + ") into the full set", full.insert(x), false);
         }
         Check.due("2: size() of the full set", full.size(), 256);
 
-        FlatQueue again = setOf(9);
+        FlatQueue again = Sets.setOf(9);
         again.delete(9);
         Check.due("2: insert(9) after delete(9)", again.insert(9), true);
         Check.due("2: member(9) after that", again.member(9), true);
     }
 
     private static void promise3Delete() {
-        FlatQueue queue = setOf(0, 10, 11, 12, 255);
+        FlatQueue queue = Sets.setOf(0, 10, 11, 12, 255);
         int[] order = {11, 0, 255};
         for (int x : order) {
             Check.due("3: delete(" + x + ")", queue.delete(x), true);
@@ -100,12 +55,12 @@ public final class PromiseTest {
             Check.due("3: delete(" + x + ")", queue.delete(x), false);
         }
         Check.due("3: delete(13)", queue.delete(13), false);
-        dueMembers("3: after the deletes", queue, 10, 12);
+        Sets.dueMembers("3: after the deletes", queue, 10, 12);
         Check.due("3: delete(0) from the empty set", new FlatQueue().delete(0), false);
     }
 
     private static void promise4Member() {
-        FlatQueue queue = setOf(0, 10, 255);
+        FlatQueue queue = Sets.setOf(0, 10, 255);
         for (int x = 0; x <= 255; x++) {
             Check.due("4: member(" + x + ")", queue.member(x), x == 0 || x == 10 || x == 255);
         }
@@ -115,7 +70,7 @@ public final class PromiseTest {
         queue.delete(10);
         Check.due("4: member(10) after delete(10)", queue.member(10), false);
 
-        FlatQueue full = fullSet();
+        FlatQueue full = Sets.fullSet();
         for (int x : OUTSIDE) {
             Check.due("4: member(" + x + ") of the full set", full.member(x), false);
         }
@@ -145,7 +100,7 @@ public final class PromiseTest {
         queue.takeGreatest();
         Check.due("5: size() after taking from the empty set", queue.size(), 0);
 
-        FlatQueue full = fullSet();
+        FlatQueue full = Sets.fullSet();
         Check.due("5: size() of the full set", full.size(), 256);
         full.deleteBetween(10, 19);
         Check.due("5: size() after deleteBetween(10, 19)", full.size(), 246);
@@ -166,7 +121,7 @@ public final class PromiseTest {
         Check.due("6: least() after deleteBetween(0, 254)", queue.least(), 255);
         queue.delete(255);
         Check.due("6: least() when emptied", queue.least(), NONE);
-        Check.due("6: least() of the full set", fullSet().least(), 0);
+        Check.due("6: least() of the full set", Sets.fullSet().least(), 0);
     }
 
     private static void promise7Greatest() {
@@ -184,11 +139,11 @@ public final class PromiseTest {
         Check.due("7: greatest() after deleteBetween(1, 255)", queue.greatest(), 0);
         queue.delete(0);
         Check.due("7: greatest() when emptied", queue.greatest(), NONE);
-        Check.due("7: greatest() of the full set", fullSet().greatest(), 255);
+        Check.due("7: greatest() of the full set", Sets.fullSet().greatest(), 255);
     }
 
     private static void promise8After() {
-        FlatQueue queue = setOf(0, 10, 11, 128, 255);
+        FlatQueue queue = Sets.setOf(0, 10, 11, 128, 255);
         for (int x = 0; x <= 255; x++) {
             int want = x < 10 ? 10 : x < 11 ? 11 : x < 128 ? 128 : x < 255 ? 255 : NONE;
             Check.due("8: after(" + x + ")", queue.after(x), want);
@@ -199,7 +154,7 @@ public final class PromiseTest {
         }
         Check.due("8: after(0) in the empty set", new FlatQueue().after(0), NONE);
 
-        FlatQueue full = fullSet();
+        FlatQueue full = Sets.fullSet();
         for (int x = 0; x <= 254; x++) {
             Check.due("8: after(" + x + ") in the full set", full.after(x), x + 1);
         }
@@ -207,7 +162,7 @@ public final class PromiseTest {
     }
 
     private static void promise9Before() {
-        FlatQueue queue = setOf(0, 10, 11, 128, 255);
+        FlatQueue queue = Sets.setOf(0, 10, 11, 128, 255);
         for (int x = 0; x <= 255; x++) {
             int want = x > 128 ? 128 : x > 11 ? 11 : x > 10 ? 10 : x > 0 ? 0 : NONE;
             Check.due("9: before(" + x + ")", queue.before(x), want);
@@ -218,7 +173,7 @@ public final class PromiseTest {
         }
         Check.due("9: before(255) in the empty set", new FlatQueue().before(255), NONE);
 
-        FlatQueue full = fullSet();
+        FlatQueue full = Sets.fullSet();
         for (int x = 1; x <= 255; x++) {
             Check.due("9: before(" + x + ") in the full set", full.before(x), x - 1);
         }
@@ -226,47 +181,47 @@ public final class PromiseTest {
     }
 
     private static void promise10TakeLeast() {
-        FlatQueue queue = setOf(255, 64, 0, 63);
+        FlatQueue queue = Sets.setOf(255, 64, 0, 63);
         int[] order = {0, 63, 64, 255};
         for (int x : order) {
             Check.due("10: takeLeast()", queue.takeLeast(), x);
             Check.due("10: member(" + x + ") after it", queue.member(x), false);
         }
         Check.due("10: takeLeast() when emptied", queue.takeLeast(), NONE);
-        dueMembers("10: after the last", queue);
+        Sets.dueMembers("10: after the last", queue);
 
-        FlatQueue one = setOf(5, 6, 7);
+        FlatQueue one = Sets.setOf(5, 6, 7);
         one.takeLeast();
-        dueMembers("10: after one", one, 6, 7);
+        Sets.dueMembers("10: after one", one, 6, 7);
 
-        FlatQueue full = fullSet();
+        FlatQueue full = Sets.fullSet();
         for (int x = 0; x <= 254; x++) {
             Check.due("10: takeLeast() from full", full.takeLeast(), x);
         }
     }
 
     private static void promise11TakeGreatest() {
-        FlatQueue queue = setOf(255, 64, 0, 63);
+        FlatQueue queue = Sets.setOf(255, 64, 0, 63);
         int[] order = {255, 64, 63, 0};
         for (int x : order) {
             Check.due("11: takeGreatest()", queue.takeGreatest(), x);
             Check.due("11: member(" + x + ") after it", queue.member(x), false);
         }
         Check.due("11: takeGreatest() when emptied", queue.takeGreatest(), NONE);
-        dueMembers("11: after the last", queue);
+        Sets.dueMembers("11: after the last", queue);
 
-        FlatQueue one = setOf(5, 6, 7);
+        FlatQueue one = Sets.setOf(5, 6, 7);
         one.takeGreatest();
-        dueMembers("11: after one", one, 5, 6);
+        Sets.dueMembers("11: after one", one, 5, 6);
 
-        FlatQueue full = fullSet();
+        FlatQueue full = Sets.fullSet();
         for (int x = 255; x >= 1; x--) {
             Check.due("11: takeGreatest() from full", full.takeGreatest(), x);
         }
     }
 
     private static void promise12CountBetween() {
-        FlatQueue queue = setOf(0, 10, 11, 12, 255);
+        FlatQueue queue = Sets.setOf(0, 10, 11, 12, 255);
         int[][] rows = {
             {0, 255, 5}, {10, 12, 3}, {10, 10, 1}, {13, 13, 0}, {9, 11, 2}, {11, 254, 2}, {1, 254, 3},
             {0, 0, 1}, {255, 255, 1}, {12, 10, 0}, {255, 0, 0}, {11, 10, 0},
@@ -277,11 +232,11 @@ public final class PromiseTest {
             Check.due("12: countBetween(" + row[0] + ", " + row[1] + ")", queue.countBetween(row[0], row[1]), row[2]);
         }
         Check.due("12: countBetween(0, 255) of the empty set", new FlatQueue().countBetween(0, 255), 0);
-        Check.due("12: countBetween(0, 255) of the full set", fullSet().countBetween(0, 255), 256);
+        Check.due("12: countBetween(0, 255) of the full set", Sets.fullSet().countBetween(0, 255), 256);
     }
 
     private static void promise13Select() {
-        FlatQueue queue = setOf(255, 11, 0, 10);
+        FlatQueue queue = Sets.setOf(255, 11, 0, 10);
         int[] order = {0, 10, 11, 255};
         for (int k = 0; k < order.length; k++) {
             Check.due("13: select(" + k + ")", queue.select(k), order[k]);
@@ -295,16 +250,16 @@ public final class PromiseTest {
         Check.due("13: select(3) after delete(10)", queue.select(3), NONE);
         Check.due("13: select(0) in the empty set", new FlatQueue().select(0), NONE);
 
-        FlatQueue full = fullSet();
+        FlatQueue full = Sets.fullSet();
         for (int k = 0; k <= 254; k++) {
             Check.due("13: select(" + k + ") in the full set", full.select(k), k);
         }
         Check.due("13: select(255) in the full set", full.select(255), 255);
-        Check.due("13: select(256) in the full set", fullSet().select(256), NONE);
+        Check.due("13: select(256) in the full set", Sets.fullSet().select(256), NONE);
     }
 
     private static void promise14GapFrom() {
-        FlatQueue queue = setOf(0, 10, 11, 12, 14, 63, 64, 65, 253, 254, 255);
+        FlatQueue queue = Sets.setOf(0, 10, 11, 12, 14, 63, 64, 65, 253, 254, 255);
         int[][] rows = {{0, 1}, {1, 1}, {9, 9}, {10, 13}, {11, 13}, {12, 13}, {13, 13}, {14, 15}, {63, 66},
             {64, 66}, {252, 252}, {253, NONE}, {254, NONE}, {255, NONE}};
         for (int[] row : rows) {
@@ -317,7 +272,7 @@ public final class PromiseTest {
         Check.due("14: gapFrom(0) in the empty set", new FlatQueue().gapFrom(0), 0);
         Check.due("14: gapFrom(255) in the empty set", new FlatQueue().gapFrom(255), 255);
 
-        FlatQueue full = fullSet();
+        FlatQueue full = Sets.fullSet();
         Check.due("14: gapFrom(0) in the full set", full.gapFrom(0), NONE);
         Check.due("14: gapFrom(255) in the full set", full.gapFrom(255), NONE);
         full.delete(255);
@@ -347,7 +302,7 @@ public final class PromiseTest {
         dueLeft(MAX, MIN, 0, all, all);
         dueLeft(0, 255, 0, new int[0]);
 
-        FlatQueue full = fullSet();
+        FlatQueue full = Sets.fullSet();
         Check.due("15: deleteBetween(1, 254) of the full set", full.deleteBetween(1, 254), 254);
         Check.due("15: deleteBetween(1, 254) again", full.deleteBetween(1, 254), 0);
         Check.due("15: deleteBetween(0, 255) then", full.deleteBetween(0, 255), 2);
@@ -356,13 +311,13 @@ public final class PromiseTest {
 
     private static void dueLeft(int a, int b, int want, int[] members, int... left) {
         String call = "15: deleteBetween(" + a + ", " + b + ")";
-        FlatQueue queue = setOf(members);
+        FlatQueue queue = Sets.setOf(members);
         Check.due(call, queue.deleteBetween(a, b), want);
-        dueMembers(call, queue, left);
+        Sets.dueMembers(call, queue, left);
     }
 
     private static void promise16Nearest() {
-        FlatQueue queue = setOf(10, 14, 19, 200);
+        FlatQueue queue = Sets.setOf(10, 14, 19, 200);
         int[][] rows = {{0, 10}, {9, 10}, {10, 10}, {11, 10}, {12, 10}, {13, 14}, {14, 14}, {16, 14}, {17, 19},
             {19, 19}, {20, 19}, {109, 19}, {110, 200}, {199, 200}, {200, 200}, {201, 200}, {255, 200}};
         for (int[] row : rows) {
@@ -371,19 +326,19 @@ public final class PromiseTest {
         for (int x : OUTSIDE) {
             Check.due("16: nearest(" + x + ")", queue.nearest(x), x < 0 ? 10 : 200);
             Check.due("16: nearest(" + x + ") in the empty set", new FlatQueue().nearest(x), NONE);
-            Check.due("16: nearest(" + x + ") to 77 alone", setOf(77).nearest(x), 77);
-            Check.due("16: nearest(" + x + ") to the ends", setOf(0, 255).nearest(x), x < 0 ? 0 : 255);
+            Check.due("16: nearest(" + x + ") to 77 alone", Sets.setOf(77).nearest(x), 77);
+            Check.due("16: nearest(" + x + ") to the ends", Sets.setOf(0, 255).nearest(x), x < 0 ? 0 : 255);
         }
         Check.due("16: nearest(0) in the empty set", new FlatQueue().nearest(0), NONE);
-        Check.due("16: nearest(127) to the ends", setOf(0, 255).nearest(127), 0);
-        Check.due("16: nearest(128) to the ends", setOf(0, 255).nearest(128), 255);
-        Check.due("16: nearest(127) to 0 and 254", setOf(254, 0).nearest(127), 0);
-        Check.due("16: nearest(0) to 255 alone", setOf(255).nearest(0), 255);
-        Check.due("16: nearest(255) to 0 alone", setOf(0).nearest(255), 0);
+        Check.due("16: nearest(127) to the ends", Sets.setOf(0, 255).nearest(127), 0);
+        Check.due("16: nearest(128) to the ends", Sets.setOf(0, 255).nearest(128), 255);
+        Check.due("16: nearest(127) to 0 and 254", Sets.setOf(254, 0).nearest(127), 0);
+        Check.due("16: nearest(0) to 255 alone", Sets.setOf(255).nearest(0), 255);
+        Check.due("16: nearest(255) to 0 alone", Sets.setOf(0).nearest(255), 0);
     }
 
     private static void promise17RefusedCallsChangeNothing() {
-        FlatQueue queue = setOf(0, 10, 255);
+        FlatQueue queue = Sets.setOf(0, 10, 255);
         for (int x : OUTSIDE) {
             queue.insert(x);
             queue.delete(x);
@@ -398,7 +353,7 @@ public final class PromiseTest {
         queue.select(-1);
         queue.deleteBetween(255, 0);
         queue.deleteBetween(10, 9);
-        dueMembers("17: after refused calls", queue, 0, 10, 255);
+        Sets.dueMembers("17: after refused calls", queue, 0, 10, 255);
 
         FlatQueue empty = new FlatQueue();
         empty.takeLeast();
@@ -406,9 +361,9 @@ public final class PromiseTest {
         empty.delete(0);
         empty.delete(NONE);
         empty.deleteBetween(0, 255);
-        dueMembers("17: after taking from the empty set", empty);
+        Sets.dueMembers("17: after taking from the empty set", empty);
 
-        FlatQueue full = fullSet();
+        FlatQueue full = Sets.fullSet();
         for (int x : OUTSIDE) {
             full.insert(x);
             full.delete(x);
@@ -421,7 +376,7 @@ public final class PromiseTest {
 
     private static void promise17QuestionsChangeNothing() {
         int[] asked = {MIN, -1, 0, 5, 10, 11, 255, 256, MAX};
-        FlatQueue queue = setOf(0, 10, 255);
+        FlatQueue queue = Sets.setOf(0, 10, 255);
         for (int x : asked) {
             queue.member(x);
             queue.after(x);
@@ -434,6 +389,6 @@ public final class PromiseTest {
         queue.size();
         queue.least();
         queue.greatest();
-        dueMembers("17: after questions", queue, 0, 10, 255);
+        Sets.dueMembers("17: after questions", queue, 0, 10, 255);
     }
 }
