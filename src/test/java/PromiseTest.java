@@ -1,6 +1,6 @@
 import java.util.stream.IntStream;
 
-/** One method for each promise of the document; no object is used for more than its 512 calls. */
+/** At least one method for each promise of the document; no object is used for more than its 512 calls. */
 public final class PromiseTest {
     private static final int MIN = Sets.MIN;
     private static final int MAX = Sets.MAX;
